@@ -138,11 +138,11 @@ public final class LanguageTest {
         int[] fed = bytes("man a 50 30 9;man b 60 50 9;deed d 1 2 3;plan a d 2;law push 9+behind;law fair steps;bet 9 5;");
         allCalls(x, fed);
         long before = bean.getCurrentThreadAllocatedBytes();
-        for (int k = 0; k < 5; k++) {
+        for (int k = 0; k < 100; k++) {
             allCalls(x, fed);
         }
         long made = bean.getCurrentThreadAllocatedBytes() - before;
-        check(made < 2000, "calls made " + made + " bytes");
+        check(made < 20000, "calls made " + made + " bytes");
     }
 
     private static int[] bytes(String text) {

@@ -176,6 +176,16 @@ public final class PromisesTest {
         due("bet", x.winner(1), 7);
         x.note(1, 0, 99, true);
         due("all known again", x.count(12), 1);
+        x = of("man a 9 9 5;rain 100;bet 5 1;pay 3 1;");
+        x.go(3);
+        x.wear(0, false);
+        x.go(1);
+        tell(x, "man a 9 9 5;");
+        int[] fresh = all(x, 1);
+        int[] due = all(of("man a 9 9 5;"), 1);
+        for (int k = 0; k < due.length; k++) {
+            due("all is as of a new text " + k, fresh[k], due[k]);
+        }
     }
 
     private static void faultsOfTokens() {
@@ -240,6 +250,15 @@ public final class PromisesTest {
         faulty("rain 100;rain", 3, 9);
         faulty("seed 99999;seed", 3, 11);
         faulty("seed 100000;", 2, 5);
+        faulty("man a 1 1 100;", 2, 10);
+        faulty("deed d 21 1 1;", 2, 7);
+        faulty("deed d 1 1 10;", 2, 11);
+        faulty("bet 1000 1;", 2, 4);
+        faulty("bet 1 15;", 2, 6);
+        faulty("pay 100 1;", 2, 4);
+        faulty("pay 1 1000;", 2, 6);
+        faulty("rain 101;", 2, 5);
+        due("the least of all", of("man a 0 0 0;deed d 0 0 0;bet 0 1;pay 0 0;rain 0;seed 0;").count(1), 1);
         faulty("bet 000 00;", 2, 8);
         due("zeros ahead", manOf(of("man a 007 08 09;"), 0, 1), 8);
     }
@@ -284,6 +303,12 @@ public final class PromisesTest {
             most.append("+1");
         }
         due("63", of(most + ";").count(3), 63);
+        WristGoal x = of("man a 1 1 1;law fair 5+5;");
+        for (int k = 0; k < 3; k++) {
+            tell(x, "man a 1 1 1;" + most + ";law fair 7;");
+            due("all 64 are worked out: push", x.law(0, 0), 32);
+            due("all 64 are worked out: fair", x.law(2, 0), 7);
+        }
         due("64 in two", of(most + ";law fair 1;").count(3), 64);
         due("64 with not", of(most.toString().replace("push ", "push not ") + ";").count(3), 64);
         faulty(most + "+1;", 2, most.length() + 1);
@@ -389,6 +414,8 @@ public final class PromisesTest {
         due("not ahead of and", of("man a 1 1 1;law fair not 0 and 0;").law(2, 0), 0);
         due("comparisons", of("man a 1 1 1;law fair (1<2)+(2<=2)*2+(3=4)*4+(3<>4)*8+(5>=6)*16+(6>5)*32;")
             .law(2, 0), 1 + 2 + 8 + 32);
+        due("comparisons that aren't so", of("man a 1 1 1;law fair (2<2)+(3<=2)+(3=4)+(4<>4)+(5>=6)+(6>6)"
+            + "+(1 and 0)+(0 or 0);").law(2, 0), 0);
         due("minus from the left", of("man a 1 1 1;law fair 9-3-2;").law(2, 0), 4);
     }
 
@@ -400,6 +427,13 @@ public final class PromisesTest {
         due("and 1", of("man a 1 1 1;law fair 1000*1000*1000*1000+1;").law(2, 0), Long.MIN_VALUE);
         due("below", of("man a 1 1 1;law fair 0-1000*1000*1000*1000;").law(2, 0), -1000000000000L);
         due("below by more", of("man a 1 1 1;law fair 0-1000*1000*1000*1000-1;").law(2, 0), Long.MIN_VALUE);
+        due("10 to the 12 by +", of("man a 1 1 1;law fair 999*1001*(999*1001)+(2*999*1001+1);").law(2, 0), 1000000000000L);
+        due("below by +", of("man a 1 1 1;law fair (0-1000*1000*1000*999)+(0-1000*1000*1000);").law(2, 0),
+            -1000000000000L);
+        due("below by + and more", of("man a 1 1 1;law fair (0-1000*1000*1000*1000)+(0-1);").law(2, 0), Long.MIN_VALUE);
+        due("above by -", of("man a 1 1 1;law fair 1000*1000*1000*1000-(0-1);").law(2, 0), Long.MIN_VALUE);
+        due("10 to the 12 by -", of("man a 1 1 1;law fair 1000*1000*1000*1000-0;").law(2, 0), 1000000000000L);
+        due("below by *", of("man a 1 1 1;law fair 1000*1000*(0-1000*1000);").law(2, 0), -1000000000000L);
         due("beyond longs", of("man a 1 1 1;law fair 1000*1000*1000*1000*(1000*1000*1000*1000)*0;").law(2, 0),
             Long.MIN_VALUE);
         due("just above", of("man a 1 1 1;law fair (0-9999*9999)*(101*100-99);").law(2, 0), -9999L * 9999 * 10001);
@@ -709,6 +743,9 @@ public final class PromisesTest {
         due("no such person", x.needs(3), -1);
         due("no such person", x.needs(-1), -1);
         due("by none", of("man a 0 0 0;man b 1 1 0;law fair 999*goal;bet 1 2;").needs(0), -2);
+        due("1000 are too many", of("man a 1 1 0;man b 0 0 0;law fair 999*goal;bet 1 1;").needs(1), -2);
+        due("1000 are too many", of("man a 1 1 0;man b 0 0 0;law fair 999*goal+behind*0;bet 1 1;").needs(1), -2);
+        due("999, one by one", of("man a 0 0 0;man b 1 1 0;law fair 999*goal+behind*0;bet 1 1;").needs(0), 999);
         due("999 are enough", of("man a 0 0 0;man b 1 1 0;law fair 999*goal;bet 1 1;").needs(0), 999);
         due("b, behind, comes up to 50", of("man a 50 10 0;man b 50 30 0;law push 99*(behind>0);bet 1 1;").needs(0), 40);
         due("20 do, 21 don't, 40 do", of("man a 50 10 0;man b 50 30 0;law push 99*(behind>30);bet 1 1;").needs(0), 20);
@@ -730,6 +767,9 @@ public final class PromisesTest {
         due("a wins by 30 for 9 of 12", x.rests(0, 1), 1);
         due("a's three tens", x.rest(0, 1, 0), 30);
         due("the other way round", x.rest(1, 0, 0), 3);
+        x = of("man a 0 20 0;man b 0 5 0;man c 0 53 0;bet 13 1;");
+        due("33 lack", x.rest(0, 1, 0), 40);
+        due("33 lack the second one", x.rest(1, 0, 0), 4);
         due("a and b overbid each other", of("man a 0 20 0;man b 0 30 0;man c 0 50 0;bet 12 1;").rests(0, 1), 0);
         x = of("man a 0 20 0;man b 0 20 0;bet 3 1;");
         due("3 for 3: b is as well off either way", x.rests(0, 1), 2);
@@ -883,6 +923,7 @@ public final class PromisesTest {
         due("a row of 0", x.chance(2147483647, 60, 0, 0), 10);
         due("no day goes by", x.count(4), 0);
         due("seed -1", x.chance(-1, 3, 0, 1), -1);
+        due("seed 0", x.chance(0, 1, 0, 0), 10);
         due("0 days", x.chance(1, 0, 0, 1), -1);
         due("61 days", x.chance(1, 61, 0, 1), -1);
         due("row 100", x.chance(1, 1, 0, 100), -1);
@@ -970,9 +1011,9 @@ public final class PromisesTest {
         x.lend(0, 7);
         due("keep", x.keep(), 3);
         due("undo stays", x.count(13), 1);
-        int[] before = all(x);
+        int[] before = all(x, 2);
         x.go(5);
-        int[] behind = all(x);
+        int[] behind = all(x, 2);
         x.goal(0, 1);
         x.wear(1, false);
         x.plan(1, 0, 4);
@@ -983,11 +1024,11 @@ public final class PromisesTest {
         due("notes stay", x.count(11), 1);
         due("known stays", x.count(12), 0);
         for (int k = 0; k < before.length; k++) {
-            due("as it was " + k, all(x)[k], before[k]);
+            due("as it was " + k, all(x, 2)[k], before[k]);
         }
         x.go(5);
         for (int k = 0; k < behind.length; k++) {
-            due("the same days again " + k, all(x)[k], behind[k]);
+            due("the same days again " + k, all(x, 2)[k], behind[k]);
         }
         due("back again", x.back(), 3);
         x.go(1);
@@ -996,10 +1037,10 @@ public final class PromisesTest {
         due("back to it", x.back(), 4);
     }
 
-    private static int[] all(WristGoal x) {
+    private static int[] all(WristGoal x, int men) {
         int[] all = new int[40];
         int at = 0;
-        for (int man = 0; man < 2; man++) {
+        for (int man = 0; man < men; man++) {
             for (int what = 0; what < 8; what++) {
                 all[at++] = x.man(man, what);
             }
