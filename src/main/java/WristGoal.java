@@ -1380,14 +1380,6 @@ public final class WristGoal {
             return minding;
         }
 
-        /** The E of a rule from 0 on up to the most, or what stands in its place without it or with an error. */
-        int bounded(int rule, int most, int otherwise) {
-            if (!isTold(rule) || !workOut(rule)) {
-                return otherwise;
-            }
-            return (int) Math.max(0L, Math.min((long) most, answer));
-        }
-
         /** Sets the answer; false with an error. */
         boolean workOut(int rule) {
             int top = 0;
@@ -1639,8 +1631,7 @@ public final class WristGoal {
             int walks = ground + told.inPlan(told.real, p.times);
             int counts = p.stepsOn(ground, told);
             if (counts < p.goal && p.band && !pushless) {
-                setNames(told.laws, p, counts);
-                if (p.goal - counts <= told.laws.bounded(PUSH_RULE, 99, told.push[man])) {
+                if (p.goal - counts <= ruled(told.laws, PUSH_RULE, p, counts, 99, told.push[man])) {
                     walks += p.goal - counts;
                     counts = p.goal;
                 }
@@ -1656,10 +1647,8 @@ public final class WristGoal {
             if (counts >= told.payFrom) {
                 p.pence += told.pence;
             }
-            setNames(told.laws, p, counts);
-            p.sum += told.laws.bounded(FAIR_RULE, 999, Math.min(counts, 999));
-            setNames(told.laws, p, counts);
-            p.base = told.laws.bounded(HABIT_RULE, 99, habitOf(p, rowBefore));
+            p.sum += ruled(told.laws, FAIR_RULE, p, counts, 999, Math.min(counts, 999));
+            p.base = ruled(told.laws, HABIT_RULE, p, counts, 99, habitOf(p, rowBefore));
             p.lent = 0;
         }
 
@@ -1691,13 +1680,22 @@ public final class WristGoal {
             return first;
         }
 
+        /** The E of a rule from 0 on up to the most, or what stands in its place without it or with an error. */
+        private int ruled(Laws laws, int rule, Person p, int counts, int most, int otherwise) {
+            if (!laws.isTold(rule)) {
+                return otherwise;
+            }
+            setNames(laws, p, counts);
+            if (!laws.workOut(rule)) {
+                return otherwise;
+            }
+            return (int) Math.max(0L, Math.min((long) most, laws.answer));
+        }
+
         /** What the names of the laws stand for, with so many steps. */
         void setNames(Laws laws, Person p, int counts) {
-            if (laws.knots == 0) {
-                return;
-            }
             int most = p.sum;
-            for (int i = 0; i < MEN; i++) {
+            for (int i = 0; i < MEN && laws.mindsOthers(); i++) {
                 if (i != gone) {
                     most = Math.max(most, people[i].sum);
                 }
