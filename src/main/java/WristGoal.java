@@ -728,10 +728,10 @@ public final class WristGoal {
         }
         int lacks = p.goal - p.base - told.inPlan(told.counted, p.times);
         int best = NONE;
-        int least = Integer.MAX_VALUE;
+        int least = 0;
         for (int way = 0; way < ways; way++) {
             int minutes = amount(way, tried, told.minutes);
-            if (minutes < least && amount(way, tried, told.counted) >= lacks) {
+            if ((best == NONE || minutes < least) && amount(way, tried, told.counted) >= lacks) {
                 best = way;
                 least = minutes;
             }
@@ -1383,7 +1383,7 @@ public final class WristGoal {
         /** Sets the answer; false with an error. */
         boolean workOut(int rule) {
             int top = 0;
-            for (int i = from[rule]; i < to[rule]; i++) {
+            for (int i = from[rule]; i < to[rule] && top < KNOTS; i++) {
                 int knot = kind[i];
                 if (knot == Tokens.NUMBER) {
                     stack[top] = value[i];

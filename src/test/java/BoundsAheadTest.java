@@ -593,6 +593,10 @@ public final class BoundsAheadTest {
         x = of("man a 1 1 1;deed d 1 2 1;deed e 0 20 1;deed f 20 19 1;plan a d 9;plan a e 9;plan a f 9;");
         due("189 of 369", x.falseOnes(0, 0), 21);
         due("189 of 369", x.falseOnes(0, 1), 41);
+        x = of("man a 1 1 1;deed a 1 2 1;deed b 1 1 1;deed c 0 0 0;deed d 2 2 1;deed e 3 3 3;deed f 5 8 1;"
+            + "plan a f 2;plan a a 1;");
+        due("7 of 18, by the sixth deed, too", x.falseOnes(0, 0), 7);
+        due("7 of 18", x.falseOnes(0, 1), 18);
         Bounds.leavesAll("false", y -> y.falseOnes(0, 1));
     }
 
@@ -757,6 +761,14 @@ public final class BoundsAheadTest {
         due("behind a: 90 more each day", x.tried(0, 0, 1), 91);
         due("behind nobody", x.tried(2, 0, 1), 50);
         due("alone", of("man a 1 1 1;").tried(2, 0, 60), 0);
+        x = of("man a 9 1 8;man b 9 1 8;man c 9 1 8;man d 9 1 8;man e 9 2 8;deed a 5 0 1;deed b 1 1 1;deed c 1 1 1;"
+            + "deed d 1 1 1;deed e 1 1 1;deed f 7 0 1;plan e f 2;rain 50;");
+        x.wear(4, false);
+        int[] five = {4 * 0 + 1 + 14, 4 * 9 + 2 + 14, 1 + 14, 9 + 14, 1, 1 + 14};
+        for (int what = 0; what <= 5; what++) {
+            due("of five, what " + what, x.tried(what, 0, 1), five[what]);
+        }
+        due("without the fifth", x.tried(2, 4, 1), 0);
     }
 
     @Says(promise = 37, value = "TRIED (n 0 .. 60);")

@@ -269,6 +269,14 @@ public final class BoundsOfNotesTest {
         x.plan(0, 0, 9);
         x.plan(1, 0, 9);
         due("calls of plan don't count", x.fits(1, 1), bits(5, 5));
+        x.tried(2, 1, 1);
+        due("nor what was tried", x.fits(1, 1), bits(5, 5));
+        x.ahead(0, 9, 0);
+        due("nor days ahead of another one", x.fits(1, 1), bits(5, 5));
+        x = Bounds.of("man a 50 40 10;deed d 0 0 0;");
+        x.note(1, 0, 50, true);
+        x.tried(5, 0, 1);
+        due("nor that nobody pushes", x.fits(0, 0), ALL);
         Bounds.leavesAll("al's", y -> y.fits(0, 0));
         Bounds.leavesAll("bo's", y -> y.fits(1, 1));
     }
@@ -301,6 +309,16 @@ public final class BoundsOfNotesTest {
         }
         due("the first two stay", x.undo(), -1);
         due("goal", Bounds.manOf(x, 0, 0), 2);
+        x = counter();
+        for (int k = 0; k < 25; k++) {
+            x.plan(k % 2, k / 2 % 2, 3 + k / 4);
+        }
+        for (int k = 24; k >= 5; k--) {
+            due("the plan of " + k, x.times(k % 2, k / 2 % 2), 3 + k / 4);
+            x.undo();
+            due("the plan ahead of " + k, x.times(k % 2, k / 2 % 2), 2 + k / 4);
+        }
+        due("five were too many", x.undo(), -1);
     }
 
     @Says(promise = 38, value = "The latest is undone: how many are left;")
@@ -460,6 +478,14 @@ public final class BoundsOfNotesTest {
         int[] due = {3, 2, 1, 5, 4, 4, walked, steps, 12, 10, 2, 2, 1, 3};
         for (int what = 0; what < due.length; what++) {
             due("count(" + what + ")", x.count(what), due[what]);
+        }
+        x = Bounds.of("man a 0 1 0;man b 0 2 0;man c 0 3 0;man d 0 4 0;man e 9 9 0;pay 3 1;bet 7 1;");
+        x.go(1);
+        x.wear(4, false);
+        x.go(1);
+        int[] five = {5, 0, 0, 0, 2, 0, 2 * 19, 19 + 10, 27, 14, 1, 0, 0, 0};
+        for (int what = 0; what < five.length; what++) {
+            due("of five, count(" + what + ")", x.count(what), five[what]);
         }
         WristGoal y = Bounds.busy();
         for (int what = 0; what <= 13; what++) {

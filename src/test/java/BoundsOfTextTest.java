@@ -108,6 +108,16 @@ public final class BoundsOfTextTest {
         Bounds.feedAll(x, text);
         due("without the last one", x.text(699), -1);
         due("place", x.fault(1), 699);
+        String ahead = "law fair " + " ".repeat(690);
+        for (String last : new String[] {"1", "9", "(", " ", "\n"}) {
+            faulty(ahead + last, 1, 700);
+        }
+        for (String last : new String[] {"a", "z", "<", ">", "=", ";", "#"}) {
+            faulty(ahead + last, 1, 699);
+        }
+        faulty("law fair 1" + " ".repeat(689) + "<", 1, 700);
+        faulty("law fair 1" + " ".repeat(689) + ">", 1, 700);
+        faulty("law" + " ".repeat(693) + "fair", 1, 700);
     }
 
     @Says(promise = 3, value = "The TAPE's first n bytes (it is empty then) are the TEXT")
@@ -137,6 +147,13 @@ public final class BoundsOfTextTest {
             "man x 9 9 9;", ""};
         for (String text : texts) {
             Bounds.same("as of a new object", busyBut(text), Bounds.of(text));
+            WristGoal x = busyBut(text);
+            Bounds.tell(x, text);
+            Bounds.same("told twice", x, Bounds.of(text));
+            x = busyBut(text);
+            Bounds.tell(x, "man #");
+            Bounds.tell(x, text);
+            Bounds.same("told twice, with a fault between", x, Bounds.of(text));
         }
         WristGoal x = busyBut("man al 50 40 9;man bo 60 30 5;deed d 3 5 2;");
         due("day", x.count(4), 0);
@@ -156,11 +173,13 @@ public final class BoundsOfTextTest {
     private static WristGoal busyBut(String text) {
         WristGoal x = Bounds.busy();
         x.text(0);
-        Bounds.tell(x, "man al 99 9 9;deed e 1 1 1;plan al e 9;bet 1 1;pay 9 0;rain 100;law push 1;law habit 9;"
-            + "law fair 9;");
-        x.lend(0, 5);
+        Bounds.tell(x, "man al 99 9 9;man bo 5 9 9;deed e 1 1 1;plan al e 9;bet 1 2;pay 9 0;rain 100;seed 9;"
+            + "law push 1+1;law habit 9;law fair 9;");
+        x.lend(0, 99);
+        x.lend(1, 5);
+        x.go(1);
         x.wear(0, false);
-        x.go(3);
+        x.go(2);
         x.lend(0, 5);
         x.keep();
         x.note(1, 0, 999, true);
@@ -194,6 +213,13 @@ public final class BoundsOfTextTest {
         due("knots stay", x.count(3), 1);
         due("the law stays", x.law(2, 0), 5);
         due("the name stays", x.named(0, Bounds.letters("a")), 0);
+        for (String e : new String[] {"1+", "not (1+2*", "((((((((", "1<2<", "1=2 and 3<(4", "not not", "#"}) {
+            x = Bounds.of("");
+            due("a fault", Bounds.tell(x, "law push " + e), -1);
+            due("nothing of it is left", Bounds.tell(x, "man a 1 1 1;law fair 1+((((((((2<3))))))))<3;"), 2);
+            due("its value", x.law(2, 0), 1);
+            due("its knots", x.count(3), 7);
+        }
     }
 
     @Says(promise = 3, value = "-2, and the TAPE stays: there are not so many, n is below 0.")
@@ -412,6 +438,10 @@ public final class BoundsOfTextTest {
         due("not of a comparison", Bounds.value("not 1=2"), 1);
         due("not of a sum", Bounds.value("not 0+5"), 0);
         due("behind and, or, (", Bounds.value("(not 0) and not 0 or not 0"), 1);
+        due("in ( behind any sign", Bounds.value("1+(not 0)*(not 0)-(not 0)/(not 0)+((not 0)=(not 0))"), 2);
+        due("62 of them", Bounds.value("not ".repeat(62) + "5"), 1);
+        due("63 of them", Bounds.value("not ".repeat(63) + "5"), 0);
+        due("63 of them, and eight (", Bounds.value("not (".repeat(8) + "not ".repeat(55) + "5" + ")".repeat(8)), 0);
         faulty("law fair not;", 1, 12);
         faulty("law fair not", 1, 12);
         faulty("law fair 1 not 1;", 1, 11);
@@ -435,6 +465,7 @@ public final class BoundsOfTextTest {
         due("sums on both sides", Bounds.value("1+2*3=9-2"), 1);
         due("one each", Bounds.value("1<2 and 2<3 or 3<4"), 1);
         due("in parentheses", Bounds.value("(1<2)<(3<4)+1"), 1);
+        due("one in each law", Bounds.of("law push 1<2;law habit 2<3;law fair 3<4;").count(3), 9);
         due("behind not", Bounds.value("1<2 and not 2<3"), 0);
         for (String sign : new String[] {"<", "<=", "=", "<>", ">=", ">"}) {
             faulty("law fair 1<2" + sign + "3;", 1, 12);
@@ -599,6 +630,10 @@ public final class BoundsOfTextTest {
         WristGoal x = Bounds.of(plans(12));
         due("twelve", x.count(2), 12);
         due("the twelfth", x.times(3, 2), 1);
+        for (int k = 0; k < 3; k++) {
+            due("no fault", Bounds.tell(x, A_AND_D + "plan a d 1;"), 3);
+            due("of each text anew", x.count(2), 1);
+        }
         faulty(plans(12) + "plan e e 1;", 2, plans(12).length());
     }
 
@@ -631,9 +666,11 @@ public final class BoundsOfTextTest {
         x.go(1);
         due("sums are 0 without a bet, too", Bounds.manOf(x, 0, 5), 0);
         Bounds.tell(x, "man a 1 1 1;bet 5 3;");
-        Bounds.tell(x, "man a 1 1 1;");
-        due("7 without, behind a text with", x.winner(1), 7);
-        due("0 without, behind a text with", x.earns(0, 60, 1), 0);
+        for (int k = 0; k < 2; k++) {
+            Bounds.tell(x, "man a 1 1 1;");
+            due("7 without, behind a text with", x.winner(1), 7);
+            due("0 without, behind a text with", x.earns(0, 60, 1), 0);
+        }
     }
 
     @Says(promise = 3, value = "pay: PENCE 0 .. 99, from STEPS 0 .. 999 on (0, 0 without).")
@@ -650,8 +687,10 @@ public final class BoundsOfTextTest {
         x.undo();
         x.lend(0, 98);
         due("998", x.earns(0, 1, 0), 0);
-        Bounds.tell(x, "man a 1 50 0;");
-        due("0 without, behind a text with", x.earns(0, 60, 0), 0);
+        for (int k = 0; k < 2; k++) {
+            Bounds.tell(x, "man a 1 50 0;");
+            due("0 without, behind a text with", x.earns(0, 60, 0), 0);
+        }
     }
 
     @Says(promise = 3, value = "rain: of a hundred 0 .. 100 (0).")
@@ -663,9 +702,11 @@ public final class BoundsOfTextTest {
             due("wet of 99", x.count(5), rain == 0 ? 0 : 99);
         }
         WristGoal x = Bounds.of("rain 100;");
-        Bounds.tell(x, "seed 5;");
-        x.go(99);
-        due("without", x.count(5), 0);
+        for (int k = 0; k < 2; k++) {
+            Bounds.tell(x, "seed 5;");
+            x.go(99);
+            due("without", x.count(5), 0);
+        }
     }
 
     @Says(promise = 3, value = "seed: 0 .. 99999 (0).")
@@ -673,6 +714,7 @@ public final class BoundsOfTextTest {
         number("seed ", 0, 99999, ";");
         WristGoal x = Bounds.of("rain 50;seed 99999;");
         x.go(60);
+        Bounds.tell(x, "rain 50;");
         Bounds.tell(x, "rain 50;");
         WristGoal y = Bounds.of("rain 50;seed 0;");
         for (int k = 0; k < 60; k++) {
@@ -740,6 +782,14 @@ public final class BoundsOfTextTest {
             due("fault", x.fault(0), 1);
             due("the length, though the tape has more", x.fault(1), n < 3 ? 0 : n);
         }
+        String digits = "bet 123 14;law fair 9999<=9999;";
+        for (int n : new int[] {5, 6, 7, 9, 10, 21, 22, 23, 24, 26, 27, 28, 29, 30}) {
+            WristGoal x = new WristGoal();
+            Bounds.feedAll(x, digits);
+            due("cut behind " + n, x.text(n), -1);
+            due("fault", x.fault(0), 1);
+            due("the length, though the tape has more", x.fault(1), n);
+        }
         faulty("man a 1 1 1 \n ", 1, 14);
         faulty("law", 1, 3);
         faulty("law push   ", 1, 11);
@@ -803,6 +853,11 @@ public final class BoundsOfTextTest {
         faulty(most + "+1", 2, most.length() + 1);
         faulty(most + " and 1", 2, most.length() + 5);
         WristGoal x = new WristGoal();
+        for (int k = 0; k < 4; k++) {
+            Bounds.tell(x, "man a 1 1 1;" + most + ";law fair 7;");
+            due("64 of each text anew: push", x.law(0, 0), 32);
+            due("64 of each text anew: fair", x.law(2, 0), 7);
+        }
         due("65", Bounds.tell(x, full + "+1;"), -1);
         due("64 behind a text of 65", Bounds.tell(x, full + ";"), 2);
         due("64", x.count(3), 64);
