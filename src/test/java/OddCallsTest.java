@@ -9,12 +9,21 @@ import java.util.Random;
 
 /** Any call with any numbers in any state: nothing is ever thrown but what man() promises. */
 public final class OddCallsTest {
-    private static final int[] ODD = {Integer.MIN_VALUE, Integer.MIN_VALUE + 1, -99999, -2, -1, 0, 0, 0, 1, 1, 1, 2, 2, 3, 4,
-        5, 6, 7, 9, 10, 12, 13, 14, 20, 23, 24, 39, 40, 41, 59, 60, 61, 98, 99, 100, 699, 700, 701, 998, 999, 1000, 9899,
-        9900, 9901, 99999, 100000, 1 << 30, Integer.MAX_VALUE - 1, Integer.MAX_VALUE};
-    private static final String[] TEXTS = {"man a 50 30 9;man b 60 50 9;deed d 1 2 3;plan a d 2;law push 9+behind;bet 9 5;rain 50;",
-        "man a 0 0 0;man b 99 99 99;man c 9 9 9;man d 1 2 3;man e 5 5 5;deed f 20 20 9;deed g 0 0 0;law fair 9999*9999*9999*9999;",
-        "law habit ((((((((base))))))))/day;man a 50 30 9;pay 99 0;seed 99999;rain 99;", "", "man", "law fair (((((((((", "seed 9999999999;"};
+    private static final int[] ODD = {Integer.MIN_VALUE, Integer.MIN_VALUE + 1, -99999, -2, -1, 0, 0, 0, 1, 1, 1, 2, 2,
+        3, 4, 5, 6, 7, 9, 10, 12, 13, 14, 20, 23, 24, 39, 40, 41, 59, 60, 61, 98, 99, 100, 699, 700, 701, 998, 999, 1000,
+        9899, 9900, 9901, 99999, 100000, 1 << 30, Integer.MAX_VALUE - 1, Integer.MAX_VALUE};
+    /** As many people, deeds, plans and knots as there may be. */
+    private static final String FULL = "man a 50 30 9;man b 60 50 9;man c 70 70 0;man d 0 0 0;man e 99 99 99;"
+        + "deed a 1 2 3;deed b 20 20 9;deed c 0 0 0;deed d 5 9 1;deed e 3 2 1;deed f 9 9 9;plan a a 9;plan a f 1;"
+        + "plan b b 2;plan b f 3;plan c c 4;plan c a 5;plan d d 6;plan d e 7;plan e e 8;plan e f 9;plan e a 1;"
+        + "plan a e 1;bet 999 14;pay 99 9;rain 50;seed 7;law push behind" + "+1".repeat(11) + "*(not 0);"
+        + "law habit base" + "+row-row".repeat(5) + ";law fair ((((((((steps))))))))" + "/1*1".repeat(3) + "/1/day;";
+    private static final String[] TEXTS = {FULL,
+        "man a 50 30 9;man b 60 50 9;deed d 1 2 3;plan a d 2;law push 9+behind;bet 9 5;rain 50;",
+        "man a 0 0 0;man b 99 99 99;man c 9 9 9;man d 1 2 3;man e 5 5 5;deed f 20 20 9;deed g 0 0 0;"
+            + "law fair 9999*9999*9999*9999;",
+        "law habit ((((((((base))))))))/day;man a 50 30 9;pay 99 0;seed 99999;rain 99;",
+        "", "man", "law fair (((((((((", "seed 9999999999;"};
 
     public static void main(String[] args) throws Exception {
         List<Method> calls = new ArrayList<>();
@@ -42,7 +51,7 @@ public final class OddCallsTest {
     }
 
     private static void tell(WristGoal x, Random random) {
-        StringBuilder s = new StringBuilder(TEXTS[random.nextInt(TEXTS.length)]);
+        StringBuilder s = new StringBuilder(random.nextInt(4) == 0 ? FULL : TEXTS[random.nextInt(TEXTS.length)]);
         for (int k = random.nextInt(6) - 3; k > 0; k--) {
             s.insert(random.nextInt(s.length() + 1), (char) random.nextInt(256));
         }
@@ -63,7 +72,7 @@ public final class OddCallsTest {
         for (int i = 0; i < with.length; i++) {
             boolean yes = random.nextBoolean();
             with[i] = m.getParameterTypes()[i] == boolean.class ? (Object) yes
-                : (Object) (random.nextInt(3) == 0 ? ODD[random.nextInt(ODD.length)] : random.nextInt(4));
+                : (Object) (random.nextInt(3) == 0 ? ODD[random.nextInt(ODD.length)] : random.nextInt(6));
         }
         if (m.getName().equals("text") && random.nextInt(8) > 0) {
             return true;
