@@ -642,6 +642,7 @@ public final class WristGoal {
         return told.betDays > 0 ? told.betDays - now.day % told.betDays : 1;
     }
 
+    /** Walks the days by itself: through passAsItGoes its calls would go more than eight deep. */
     private boolean winsWith(int man, int more) {
         lookAtAll();
         trial.people[man].sum += more;
